@@ -21,7 +21,7 @@ public final class StepSums {
     private final boolean[] held;
     private final Walks walks;
     private final Knots knots;
-    private final Genera genera;
+    private final Small small;
     private final Cover cover;
     private Hall hall;
     private Hall spare;
@@ -39,7 +39,7 @@ public final class StepSums {
         }
         walks = new Walks();
         knots = new Knots();
-        genera = new Genera();
+        small = new Small();
         cover = new Cover();
         hall = new Hall();
         spare = new Hall();
@@ -312,14 +312,14 @@ public final class StepSums {
         if (genus < 0 || genus > Small.GREATEST_GENUS) {
             return NONE;
         }
-        int size = genera.sizeOf(genus);
+        int size = small.sizeOf(genus);
         if (i == NONE) {
             return size;
         }
         if (i < 0 || i >= size) {
             return NONE;
         }
-        return Small.stepAt(genera.maskAt(genus, i), k);
+        return Small.stepAt(small.maskAt(genus, i), k);
     }
 
     public int listed(int set) {
@@ -327,7 +327,7 @@ public final class StepSums {
         if (s == null) {
             return NONE;
         }
-        return s.genus > Small.GREATEST_GENUS ? NOTHING : genera.indexOf(s);
+        return s.genus > Small.GREATEST_GENUS ? NOTHING : small.indexOf(s);
     }
 
     public int above(int set) {
@@ -1566,14 +1566,23 @@ public final class StepSums {
 
     /**
      * SETS with few GAPS, as bits: bit x tells whether x is of it, and all above bit 31 are. With
-     * 8 GAPS at most, TOP is below 16 and each GENERATOR below 25.
+     * 8 GAPS at most, TOP is below 16 and each GENERATOR below 25. An object keeps a GENUS' LIST.
      */
     static final class Small {
         static final int GREATEST_GENUS = 8;
         /** No GAP is as great as this. */
         static final int BEYOND = 2 * GREATEST_GENUS;
 
-        private Small() {
+        /** So many SETS have 8 GAPS; fewer have fewer. */
+        private static final int MOST_LISTED = 67;
+
+        private final int[] masks;
+        private int size;
+        private int listedGenus;
+
+        Small() {
+            masks = new int[MOST_LISTED];
+            listedGenus = NONE;
         }
 
         static int maskOf(StepSet s) {
@@ -1629,21 +1638,6 @@ public final class StepSums {
             }
             return all;
         }
-    }
-
-    /** The LIST of a GENUS. */
-    static final class Genera {
-        /** So many SETS have 8 GAPS; fewer have fewer. */
-        private static final int MOST_LISTED = 67;
-
-        private final int[] masks;
-        private int size;
-        private int known;
-
-        Genera() {
-            masks = new int[MOST_LISTED];
-            known = NONE;
-        }
 
         int sizeOf(int genus) {
             learn(genus);
@@ -1657,7 +1651,7 @@ public final class StepSums {
 
         int indexOf(StepSet s) {
             learn(s.genus);
-            int mask = Small.maskOf(s);
+            int mask = maskOf(s);
             for (int i = 0; i < size; i++) {
                 if (masks[i] == mask) {
                     return i;
@@ -1667,8 +1661,8 @@ public final class StepSums {
         }
 
         private void learn(int genus) {
-            if (known != genus) {
-                known = genus;
+            if (listedGenus != genus) {
+                listedGenus = genus;
                 size = 0;
                 decide(this, 1, 1, genus);
             }
@@ -1678,16 +1672,16 @@ public final class StepSums {
          * From a number on, each is put in or left out: put in first, so that the LIST comes in
          * its order. What two make is always in.
          */
-        private static void decide(Genera into, int number, int mask, int gapsLeft) {
+        private static void decide(Small into, int number, int mask, int gapsLeft) {
             if (gapsLeft == 0) {
                 into.note(mask | -1 << number);
                 return;
             }
-            if (number >= 2 * into.known || number >= Small.BEYOND) {
+            if (number >= 2 * into.listedGenus || number >= BEYOND) {
                 return;
             }
             decide(into, number + 1, mask | 1 << number, gapsLeft);
-            if (!Small.isSumOfTwo(mask, number)) {
+            if (!isSumOfTwo(mask, number)) {
                 decide(into, number + 1, mask, gapsLeft - 1);
             }
         }
