@@ -775,7 +775,7 @@ public final class StepSums {
 
         private boolean build(Line line, StepSet made, StepSet first, StepSet second) {
             if (line.word == Reader.OF) {
-                return !haveCommonDivisor(line) && made.becomeSums(line.ints, line.intCount);
+                return made.becomeSums(line.ints, line.intCount);
             }
             if (first == null) {
                 return false;
@@ -793,19 +793,6 @@ public final class StepSums {
                     made.copyFrom(first);
                     return made.flip(line.ints[0]);
             }
-        }
-
-        private static boolean haveCommonDivisor(Line line) {
-            for (int d = 2; d <= GREATEST_STEP; d++) {
-                int multiples = 0;
-                for (int n = 0; n < line.intCount; n++) {
-                    multiples += line.ints[n] % d == 0 ? 1 : 0;
-                }
-                if (multiples == line.intCount) {
-                    return true;
-                }
-            }
-            return false;
         }
 
         /** The steps of both: what they make together is the sum of the two SETS. */
@@ -1038,6 +1025,7 @@ public final class StepSums {
             return false;
         }
 
+        /** Steps with a common divisor leave GAPS up to the row's end: they go too far. */
         boolean becomeSums(int[] steps, int count) {
             row[0] = true;
             for (int x = 1; x < ROW; x++) {

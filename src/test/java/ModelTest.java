@@ -90,7 +90,7 @@ public final class ModelTest {
 
     private void sendText() {
         if (chance(10)) {
-            int n = below(50) - 3;
+            int n = chance(20) ? wild() : below(50) - 3;
             due("back " + n, real.back(n), model.back(n));
         }
         String text = chance(12) ? anyText() : goodText();
@@ -227,7 +227,15 @@ public final class ModelTest {
         return chance(4) || size == 0 ? below(9) - 1 : below(size);
     }
 
+    private int wild() {
+        int[] ends = {Integer.MIN_VALUE, Integer.MAX_VALUE, -2, 1 << 30, 65536, 256, 400, 901, 9999, 10000};
+        return chance(50) ? random.nextInt() : ends[below(ends.length)] + below(3) - 1;
+    }
+
     private int index(int size) {
+        if (chance(3)) {
+            return wild();
+        }
         return chance(25) ? below(5) - 2 : size > 0 && chance(90) ? below(size) : below(30);
     }
 
@@ -238,24 +246,24 @@ public final class ModelTest {
                 due("undo", real.undo(), model.undo());
                 break;
             case 1: {
-                int slot = below(5) - 1;
+                int slot = chance(5) ? wild() : below(5) - 1;
                 due("hold " + slot, real.hold(slot), model.hold(slot));
                 break;
             }
             case 2: {
-                int slot = below(5) - 1;
+                int slot = chance(5) ? wild() : below(5) - 1;
                 due("restore " + slot, real.restore(slot), model.restore(slot));
                 break;
             }
             case 3: case 4: case 5: case 6: {
                 int many = Math.max(0, model.stiff(set, -1));
-                int x = many == 0 || chance(10) ? below(40) - 2 : model.stiff(set, below(many));
+                int x = chance(5) ? wild() : many == 0 || chance(10) ? below(40) - 2 : model.stiff(set, below(many));
                 due("add " + set + " " + x, real.add(set, x), model.add(set, x));
                 break;
             }
             default: {
                 int many = Math.max(0, model.generator(set, -1));
-                int x = many == 0 || chance(10) ? below(420) - 2 : model.generator(set, below(many));
+                int x = chance(5) ? wild() : many == 0 || chance(10) ? below(420) - 2 : model.generator(set, below(many));
                 int times = chance(15) ? 12 : 1;
                 for (int i = 0; i < times; i++) {
                     due("drop " + set + " " + x, real.drop(set, x), model.drop(set, x));
@@ -270,6 +278,12 @@ public final class ModelTest {
         int o = anySet();
         int x = chance(5) ? below(1000) - 20 : below(151);
         int i = below(6) - 2;
+        if (chance(4)) {
+            s = chance(30) ? wild() : s;
+            o = chance(30) ? wild() : o;
+            x = chance(50) ? wild() : x;
+            i = chance(50) ? wild() : i;
+        }
         switch (which) {
             case 0: {
                 int y = chance(5) ? below(10003) - 1 : below(220);
@@ -285,8 +299,8 @@ public final class ModelTest {
                 due("generator " + s + " " + i, real.generator(s, i), model.generator(s, i));
                 break;
             case 3: {
-                int n = chance(50) ? below(205) - 1 : Math.max(1, model.generator(s, 0));
-                int r = chance(5) ? below(205) - 2 : below(Math.max(1, n));
+                int n = chance(4) ? wild() : chance(50) ? below(205) - 1 : Math.max(1, model.generator(s, 0));
+                int r = chance(4) ? wild() : chance(5) ? below(205) - 2 : below(Math.max(1, n));
                 due("apery " + s + " " + n + " " + r, real.apery(s, n, r), model.apery(s, n, r));
                 break;
             }
@@ -299,7 +313,7 @@ public final class ModelTest {
                 due("special " + s + " " + i, real.special(s, i), model.special(s, i));
                 break;
             case 6: case 7: {
-                int what = chance(5) ? below(20) - 5 : below(8);
+                int what = chance(2) ? wild() : chance(5) ? below(20) - 5 : below(8);
                 due("about " + s + " " + what, real.about(s, what), model.about(s, what));
                 break;
             }
@@ -357,7 +371,7 @@ public final class ModelTest {
                 due("meeting " + s + " " + o + " " + i, real.meeting(s, o, i), model.meeting(s, o, i));
                 break;
             case 20: {
-                int genus = below(11) - 1;
+                int genus = chance(3) ? wild() : below(11) - 1;
                 i = index(model.list(genus, -1, 0));
                 int k = index(genus);
                 due("list " + genus + " " + i + " " + k, real.list(genus, i, k), model.list(genus, i, k));

@@ -289,12 +289,14 @@ public final class PromisesTest {
         begin("4 read: what stays, what goes");
         text("of a 3 5; of b 2 3;");
         yes("drop", s.drop(0, 3));
+        yes("hold", s.hold(0));
         yes("hold", s.hold(1));
+        yes("hold", s.hold(2));
         fault("of c 2 4;", 6, 8);
         fault("of c", 1, 4);
         due("count 0", s.count(0), 2);
         due("count 3", s.count(3), 1);
-        due("count 4", s.count(4), 1);
+        due("count 4", s.count(4), 3);
         generators(0, 5, 6, 8, 9);
         due("place", s.place(), 4);
         put("of");
@@ -384,6 +386,14 @@ public final class PromisesTest {
         due("conductor", s.about(0, 1), 200);
         generators(0, 2, 201);
         due("things", s.count(3), 40);
+        text("of a 3 4 5;");
+        for (int x = 4; x < 200; x += x % 3) {
+            yes("drop " + x, s.drop(0, x));
+        }
+        due("conductor", s.about(0, 1), 200);
+        no("conductor 201", s.drop(0, 200));
+        no("conductor 203", s.drop(0, 202));
+        generators(0, 3, 200, 202);
     }
 
     private void undo() {
@@ -595,6 +605,10 @@ public final class PromisesTest {
         yes("undo", s.undo());
         row("tie 4", i -> s.tie(4, i), 210);
         due("a SET 5", s.tie(5, NONE), NONE);
+        text("of a 13 15; of b 14 15; of c 13 14;");
+        for (int set = 0; set < 6; set++) {
+            due("tie of " + set % 3, s.tie(set % 3, 0), set % 3 == 0 ? 195 : set % 3 == 1 ? 210 : 182);
+        }
         text("of a 2 3;");
         for (int x = 3; x < 201; x += 2) {
             yes("drop " + x, s.drop(0, x));
@@ -616,29 +630,17 @@ public final class PromisesTest {
         due("12", s.chain(3, 12), 3);
         due("16", s.chain(3, 16), 3);
         due("20", s.chain(3, 20), 3);
-        int x = 0;
-        while (s.ways(3, x) <= 60) {
-            x++;
-        }
-        due("more than 60", s.chain(3, x), -2);
         due("150", s.chain(3, 150), -2);
         due("151", s.chain(0, 151), NONE);
         due("-1", s.chain(0, -1), NONE);
         due("a SET 6", s.chain(6, 0), NONE);
-        text("of a 1 14; of b 7 8; of c 2 5; of d 3 4; of e 5 6 7; of f 2 3;");
-        due("just 60 ways", manyWays(60), -1);
-    }
-
-    /** Numbers with just so many WAYS have a CHAIN: -1 if all that are found do. */
-    private int manyWays(int many) {
-        for (int set = 0; set < 6; set++) {
-            for (int x = 0; x <= 150; x++) {
-                if (s.ways(set, x) == many && s.chain(set, x) < 0) {
-                    return x;
-                }
-            }
-        }
-        return -1;
+        text("of a 5 7 8 11; of b 6 7 15;");
+        due("60 ways", s.ways(0, 88), 60);
+        due("60 ways", s.chain(0, 88), 3);
+        due("61 ways", s.ways(0, 89), 61);
+        due("61 ways", s.chain(0, 89), -2);
+        // 6 and 15, or 7 three times: the one ahead is shorter
+        due("21", s.chain(1, 21), 3);
     }
 
     private void greedyAndBlunder() {
@@ -744,6 +746,7 @@ public final class PromisesTest {
         for (int genus = 0; genus < sizes.length; genus++) {
             due("list " + genus, s.list(genus, NONE, 99), sizes[genus]);
             due("behind", s.list(genus, sizes[genus], 0), NONE);
+            due("behind", s.list(genus, sizes[genus], NONE), NONE);
             due("generators of the last", s.list(genus, sizes[genus] - 1, NONE), genus + 1);
             due("the last of them", s.list(genus, sizes[genus] - 1, genus), 2 * genus + 1);
         }
@@ -774,9 +777,18 @@ public final class PromisesTest {
             due("above " + set, s.above(set), want[set]);
         }
         due("above 6", s.above(6), NONE);
-        text("of a 3 8 10; of b 2 15; drop c b 15;");
+        text("of a 2 15; of b 2 15; drop c b 15; drop d c 17;");
         due("genus", s.gap(2, NONE), 8);
         due("above, genus 8", s.above(2), 9);
+        due("listed, genus 8", s.listed(2), 0);
+        row("piece, genus 8", i -> s.piece(2, i), 0);
+        row("good, genus 8", i -> s.good(2, i), 3);
+        due("above, genus 7", s.above(1), 8);
+        due("listed, genus 7", s.listed(1), 0);
+        due("above, genus 9", s.above(3), -2);
+        due("listed, genus 9", s.listed(3), -2);
+        due("piece, genus 9", s.piece(3, NONE), -2);
+        due("good, genus 9", s.good(3, NONE), -2);
     }
 
     private void piece() {
