@@ -1693,7 +1693,7 @@ public final class StepSums {
         private int loneCount;
         private int genus;
         private int base;
-        private int[] gaps;
+        private final int[] gaps;
 
         Cover() {
             isSet = new boolean[MOST];
