@@ -998,31 +998,24 @@ public final class StepSums {
             return findGenerators();
         }
 
+        /** What is made of others is made of one of the GENERATORS found before it, and a rest of the SET. */
         private boolean findGenerators() {
-            for (int x = 1; x < ROW && !isBeyondGenerators(x); x++) {
-                if (row[x] && !isMadeOfGenerators(x)) {
-                    if (generatorCount >= MOST_GENERATORS) {
-                        return false;
-                    }
+            int end = ROW;
+            for (int x = 1; x < end; x++) {
+                boolean isOld = !row[x];
+                for (int k = 0; k < generatorCount && !isOld; k++) {
+                    isOld = x > generators[k] && row[x - generators[k]];
+                }
+                if (!isOld && generatorCount >= MOST_GENERATORS) {
+                    return false;
+                }
+                if (!isOld) {
                     generators[generatorCount] = x;
                     generatorCount++;
+                    end = Math.min(ROW, top + generators[0] + 1);
                 }
             }
             return true;
-        }
-
-        private boolean isBeyondGenerators(int x) {
-            return generatorCount > 0 && x > top + generators[0];
-        }
-
-        /** Whether one of the GENERATORS found up to now leaves a number above 0 of the SET. */
-        private boolean isMadeOfGenerators(int x) {
-            for (int k = 0; k < generatorCount; k++) {
-                if (x > generators[k] && holds(x - generators[k])) {
-                    return true;
-                }
-            }
-            return false;
         }
 
         /** Steps with a common divisor leave GAPS up to the row's end: they go too far. */
