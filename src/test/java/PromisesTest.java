@@ -1,13 +1,5 @@
 /** Each promise of the document by examples: ordinary ones, the edges, wrong inputs. */
-public final class PromisesTest {
-    private static final int NONE = StepSums.NONE;
-    private static final int BLANKS = 0x20202020;
-
-    private int wrong;
-    private int asked;
-    private String promise = "";
-    private StepSums s;
-
+public final class PromisesTest extends Checks {
     public static void main(String[] args) {
         PromisesTest test = new PromisesTest();
         test.aNewObject();
@@ -45,82 +37,7 @@ public final class PromisesTest {
         test.same();
         test.holdAndRestore();
         test.count();
-        System.out.println("PromisesTest: " + test.asked + " answers, " + test.wrong + " wrong");
-        if (test.wrong != 0) {
-            System.exit(1);
-        }
-    }
-
-    private void due(String call, long got, long want) {
-        asked++;
-        if (got != want) {
-            wrong++;
-            System.out.println(promise + ": " + call + " answered " + got + ", due is " + want);
-        }
-    }
-
-    private void yes(String call, boolean got) {
-        due(call, got ? 1 : 0, 1);
-    }
-
-    private void no(String call, boolean got) {
-        due(call, got ? 1 : 0, 0);
-    }
-
-    private void begin(String name) {
-        promise = name;
-        s = new StepSums();
-    }
-
-    /** The text comes on the tape: twenty bytes a time, what is too much is taken back. */
-    private void put(String text) {
-        int surplus = (20 - text.length() % 20) % 20;
-        String all = text + " ".repeat(surplus);
-        for (int at = 0; at < all.length(); at += 20) {
-            s.feed(four(all, at), four(all, at + 4), four(all, at + 8), four(all, at + 12), four(all, at + 16));
-        }
-        s.back(surplus);
-    }
-
-    private static int four(String all, int at) {
-        return all.charAt(at) << 24 | all.charAt(at + 1) << 16 | all.charAt(at + 2) << 8 | all.charAt(at + 3);
-    }
-
-    private void text(String text) {
-        put(text);
-        due("read " + text, s.read(), 0);
-        due("place", s.place(), NONE);
-    }
-
-    private void fault(String text, int number, int place) {
-        put(text);
-        due("read " + text, s.read(), number);
-        due("place of " + text, s.place(), place);
-        due("tape after " + text, s.count(2), 0);
-    }
-
-    private interface Row {
-        int at(int i);
-    }
-
-    /** The row has just these numbers, and nothing on either side. */
-    private void row(String call, Row row, int... want) {
-        due(call + " NONE", row.at(NONE), want.length);
-        for (int i = 0; i < want.length; i++) {
-            due(call + " " + i, row.at(i), want[i]);
-        }
-        due(call + " behind", row.at(want.length), NONE);
-        due(call + " -2", row.at(-2), NONE);
-        due(call + " greatest", row.at(Integer.MAX_VALUE), NONE);
-        due(call + " least", row.at(Integer.MIN_VALUE), NONE);
-    }
-
-    private void gaps(int set, int... want) {
-        row("gap " + set, i -> s.gap(set, i), want);
-    }
-
-    private void generators(int set, int... want) {
-        row("generator " + set, i -> s.generator(set, i), want);
+        test.end();
     }
 
     private void aNewObject() {
@@ -657,7 +574,8 @@ public final class PromisesTest {
         due("151", s.greedy(0, 151, 0), NONE);
         due("-1", s.greedy(0, -1, 0), NONE);
         due("a SET 5", s.greedy(5, 0, 0), NONE);
-        promise = "23 blunder";
+        begin("23 blunder");
+        text("of a 3 5; of b 1; of c 4 9 11; of d 2 3; of e 14 15;");
         due("3 5", s.blunder(0), 6);
         due("all", s.blunder(1), -2);
         due("4 9 11", s.blunder(2), 12);
@@ -759,7 +677,7 @@ public final class PromisesTest {
         }
         due("i -2", s.list(3, -2, 0), NONE);
         due("genus 8, the first", s.list(8, 0, 1), 17);
-        promise = "29 listed";
+        begin("29 listed");
         text("of a 3 5; of b 1; of c 2 7; of d 4 5 6 7; of e 3 5 7; of f 14 15;");
         int[] want = {1, 0, 0, 3, 2, -2};
         for (int set = 0; set < 6; set++) {
