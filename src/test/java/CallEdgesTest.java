@@ -34,6 +34,7 @@ public final class CallEdgesTest extends Checks {
         test.chain0To150();
         test.chainUpTo60Ways();
         test.greedy0To150();
+        test.asksWith24Generators();
         test.kunzRests();
         test.below0To2();
         test.meeting0To2();
@@ -534,6 +535,13 @@ public final class CallEdgesTest extends Checks {
         due("RULES", s.about(2, 6), 3);
         yes("undo", s.undo());
         row("tie", i -> s.tie(2, i), 12, 14, 15, 16, 18);
+        begin("20 tie: of SETS that have all GENERATORS but one alike");
+        text("of a 3 5;of b 2 5;of c 2 3;of d 4 3;");
+        row("tie 0", i -> s.tie(0, i), 15);
+        row("tie 1", i -> s.tie(1, i), 10);
+        row("tie 2", i -> s.tie(2, i), 6);
+        row("tie 3", i -> s.tie(3, i), 12);
+        row("tie 2", i -> s.tie(2, i), 6);
         begin("20 tie: a far one");
         text("of a 2 3;");
         for (int x = 3; x < 201; x += 2) {
@@ -585,6 +593,50 @@ public final class CallEdgesTest extends Checks {
             }
         }
         due("less than the least GENERATOR", s.greedy(1, 13, 2), 13);
+    }
+
+    private void asksWith24Generators() {
+        begin("11, 16 to 23 with 24 GENERATORS, the most that there can be: 24 .. 47");
+        text("of a 1;");
+        for (int x = 1; x < 24; x++) {
+            yes("drop " + x, s.drop(0, x));
+        }
+        int[][] want = {{0, 1, 0}, {23, 0, 0}, {24, 1, 1}, {47, 1, 1}, {48, 1, 1}, {71, 12, 12}, {72, 13, 13}, {94, 53, 2}, {95, 56, 1},
+            {150, 1062, 1}};
+        for (int[] line : want) {
+            due("ways " + line[0], s.ways(0, line[0]), line[1]);
+            due("parts " + line[0], s.parts(0, line[0]), line[2]);
+        }
+        // 24 and 47, 25 and 46, up to 35 and 36
+        for (int i = 0; i < 12; i++) {
+            due("way 71 " + i, s.way(0, 71, i, i), 1);
+            due("way 71 " + i, s.way(0, 71, i, 23 - i), 1);
+        }
+        due("way behind the last", s.way(0, 71, 12, 23), NONE);
+        due("way, GENERATOR 24", s.way(0, 71, 0, 24), NONE);
+        // 5 times 24 and 30 ..; twice 37 and twice 38
+        due("the first WAY of 150", s.way(0, 150, 0, 0), 5);
+        due("the first WAY of 150", s.way(0, 150, 0, 6), 1);
+        due("the last WAY of 150", s.way(0, 150, 1061, 13), 2);
+        due("the last WAY of 150", s.way(0, 150, 1061, 14), 2);
+        due("behind the last", s.way(0, 150, 1062, 0), NONE);
+        due("least LENGTH", s.length(0, 150, 0), 4);
+        due("greatest LENGTH", s.length(0, 150, 1), 6);
+        due("chain 71", s.chain(0, 71), 2);
+        due("chain 72", s.chain(0, 72), 3);
+        due("chain 94", s.chain(0, 94), 3);
+        due("greedy 94", s.greedy(0, 94, 1), 2);
+        due("greedy 95", s.greedy(0, 95, 2), 1);
+        due("blunder", s.blunder(0), 48);
+        due("ties, 50 to 94", s.tie(0, NONE), 45);
+        due("the last", s.tie(0, 44), 94);
+        due("RULES", s.about(0, 6), 276);
+        due("child 23", s.child(0, 23), 47);
+        text("of a 7 15;of b 8 9;meet c a b;");
+        due("ties", s.tie(2, NONE), 69);
+        due("the first", s.tie(2, 0), 78);
+        due("the last", s.tie(2, 68), 164);
+        due("RULES", s.about(2, 6), 272);
     }
 
     private void kunzRests() {

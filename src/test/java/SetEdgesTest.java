@@ -301,6 +301,9 @@ public final class SetEdgesTest extends Checks {
         for (int[] triple : want) {
             due("CHAIN of " + triple[1], s.chain(triple[0], triple[1]), triple[2]);
         }
+        // 6 and 15, or 3 times 7: the one behind is left longer
+        text("of a 6 7 15;");
+        due("CHAIN of 21", s.chain(0, 21), 3);
     }
 
     private void greedyTillThereIsNone() {
@@ -400,6 +403,14 @@ public final class SetEdgesTest extends Checks {
         meets(3, 4, 3, 0, 1);
         meets(2, 5, 1, 3, 2);
         meets(0, 2, 0, 0, 4);
+        // where a GAP was
+        text("of a 3 5;of b 3 5;of c 2 7;");
+        yes("add", s.add(1, 7));
+        meets(0, 1, 3, 1, 0);
+        yes("add", s.add(1, 4));
+        meets(0, 1, 2, 2, 0);
+        yes("add", s.add(2, 5));
+        meets(0, 2, 1, 3, 1);
     }
 
     private void listInItsOrder() {
