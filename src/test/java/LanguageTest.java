@@ -26,6 +26,11 @@ public final class LanguageTest {
         "\\bsynchronized\\b", "\\bassert\\b", "\\bnative\\b", "\\bvolatile\\b", "\\bthis\\s*\\(", "->", "::",
         "\\w+Exact\\b", "\\bhashCode\\b", "\\btoString\\b", "\\bSystem\\s*\\.\\s*(?!arraycopy\\b)", "\\bThread\\b",
         "\\bRuntime\\b", "\\bstatic\\s*\\{", "\\[\\]\\s*\\[\\]\\s*\\[\\]", "boolean\\s*\\[\\]\\s*\\[\\]", "@\\w+"};
+    /** All of the library that the program calls or reads. */
+    private static final String LIBRARY = "Math\\.(max|min)|Integer\\.(MIN_VALUE|MAX_VALUE|bitCount|numberOfTrailingZeros)"
+        + "|System\\.arraycopy";
+    private static final String LIBRARY_CLASSES = "Math|Integer|Long|Arrays|System|String|StringBuilder|List|ArrayList"
+        + "|Character|Boolean|Byte|Short|Double|Float|Object|Class|Iterator|Iterable|Comparable";
     private static final int MOST_LINES = 60;
     private static final int MOST_FIELDS = 20;
     private static final int MOST_CLASSES = 12;
@@ -56,6 +61,8 @@ public final class LanguageTest {
             }
         }
         lookAtMethodLengths(bare);
+        lookAtLibrary(bare);
+        lookAtWhatIsMade(bare);
         lookAtFace();
         lookAtClasses();
         System.out.println("LanguageTest: " + wrong + " wrong");
@@ -82,6 +89,31 @@ public final class LanguageTest {
                 if (end - i + 1 > MOST_LINES) {
                     fault("a method of " + (end - i + 1) + " lines in line " + (i + 1));
                 }
+            }
+        }
+    }
+
+    private static void lookAtLibrary(String bare) {
+        Matcher m = Pattern.compile("\\b(" + LIBRARY_CLASSES + ")\\b(\\.\\w+)?").matcher(bare);
+        while (m.find()) {
+            if (!m.group().matches(LIBRARY)) {
+                fault("the library's " + m.group());
+            }
+        }
+    }
+
+    /** No call makes an object or a row: all are made in constructors, so that a run stays in its room. */
+    private static void lookAtWhatIsMade(String bare) {
+        Pattern head = Pattern.compile("^\\s+((?:[\\w\\[\\]]+ )*)(\\w+)\\([^=;]*\\) \\{$");
+        boolean inConstructor = false;
+        String[] lines = bare.split("\n", -1);
+        for (int i = 0; i < lines.length; i++) {
+            Matcher m = head.matcher(lines[i]);
+            if (m.find() && !m.group(2).matches("if|for|while|switch")) {
+                inConstructor = m.group(2).matches("[A-Z]\\w*") && m.group(1).matches("(public )?");
+            }
+            if (lines[i].matches(".*\\bnew\\b.*") && !inConstructor) {
+                fault("made outside a constructor in line " + (i + 1));
             }
         }
     }
@@ -138,6 +170,10 @@ public final class LanguageTest {
         if (classes.size() > MOST_CLASSES) {
             fault(classes.size() + " classes");
         }
+        TreeSet<String> publicNames = new TreeSet<>();
+        for (String promised : FACE) {
+            publicNames.add(promised.substring(promised.indexOf(' ') + 1, promised.indexOf('(')));
+        }
         for (Class<?> one : classes) {
             int fields = 0;
             for (Field f : one.getDeclaredFields()) {
@@ -153,6 +189,9 @@ public final class LanguageTest {
             for (Method m : one.getDeclaredMethods()) {
                 if (m.getParameterCount() > 7) {
                     fault("too many parameters: " + m.getName());
+                }
+                if (Modifier.isPrivate(m.getModifiers()) && publicNames.contains(m.getName())) {
+                    fault("a private method with a public one's name: " + m.getName());
                 }
             }
         }

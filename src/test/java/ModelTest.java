@@ -51,6 +51,9 @@ public final class ModelTest {
         if (seed % 10 == 0) {
             askAll();
         }
+        if (seed % 4 == 1) {
+            goFar();
+        }
         for (int text = 0; calls < 430; text++) {
             sendText();
             int steps = 10 + below(60);
@@ -218,6 +221,34 @@ public final class ModelTest {
             out.append(bits[below(bits.length)]).append(chance(80) ? " " : "");
         }
         return out.toString();
+    }
+
+    // ---- as far as a SET may go
+
+    private static final String[] FAR_TEXTS = {
+        "of a 14 15;", "of a 14 15;of b 13 15;meet c a b;sum d a b;arf e a;part f a 2;",
+        "of a 13 14;of b 11 15;meet c a b;", "of a 12 13 14 15;", "of a 10 11 12 13 14 15;of b 8 15;", "of a 1;"};
+
+    /** By hand to where CONDUCTOR and GENERATORS may not become more, then some of all is asked. */
+    private void goFar() {
+        feedText(FAR_TEXTS[below(FAR_TEXTS.length)]);
+        due("read", real.read(), model.read());
+        int way = below(3);
+        int steps = 20 + below(130);
+        for (int i = 0; i < steps; i++) {
+            int set = below(model.count(0));
+            int last = model.generator(set, -1) - 1;
+            int x = model.generator(set, way == 0 ? 0 : way == 1 ? last : below(last + 1));
+            due("drop " + set + " " + x, real.drop(set, x), model.drop(set, x));
+        }
+        for (int set = 0; set < model.count(0); set++) {
+            due("GENERATORS of " + set, real.generator(set, -1), model.generator(set, -1));
+            due("CONDUCTOR of " + set, real.about(set, 1), model.about(set, 1));
+            due("RULES of " + set, real.about(set, 6), model.about(set, 6));
+        }
+        for (int i = 0; i < 120; i++) {
+            ask(below(28));
+        }
     }
 
     // ---- calls

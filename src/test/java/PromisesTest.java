@@ -37,6 +37,7 @@ public final class PromisesTest extends Checks {
         test.same();
         test.holdAndRestore();
         test.count();
+        test.examplesOfReadme();
         test.end();
     }
 
@@ -804,5 +805,35 @@ public final class PromisesTest extends Checks {
         due("slots", s.count(4), 1);
         due("things", s.count(3), 1);
         due("of each", s.count(1), 4 + 4 + 4 + 1);
+    }
+
+    /** What README.md tells of the first steps: its example, call by call. */
+    private void examplesOfReadme() {
+        begin("README.md");
+        due("feed", s.feed(0x6f662061, 0x20332035, 0x3b202020, 0x20202020, 0x20202020), 20);
+        due("back", s.back(11), 9);
+        due("read", s.read(), 0);
+        due("how many gaps", s.gap(0, StepSums.NONE), 4);
+        due("the last", s.gap(0, 3), 7);
+        due("one too far", s.gap(0, 4), NONE);
+        due("no such set", s.about(1, 0), Integer.MIN_VALUE);
+        due("a way of 15", s.way(0, 15, 1, 1), 3);
+        due("no way of 7", s.length(0, 7, 0), -2);
+        yes("hold", s.hold(0));
+        yes("drop", s.drop(0, 3));
+        due("how many gaps", s.gap(0, StepSums.NONE), 5);
+        yes("undo", s.undo());
+        no("undo", s.undo());
+        yes("drop", s.drop(0, 5));
+        yes("restore", s.restore(0));
+        due("how many gaps", s.gap(0, StepSums.NONE), 4);
+        fault("of a 3 6;", 6, 8);
+        due("the SETS are as they were", s.gap(0, StepSums.NONE), 4);
+        text("of a 3 5;sum b a a;meet c a b;arf d a;part e a 2;add f a 7;");
+        generators(3, 3, 5, 7);
+        generators(4, 3, 4, 5);
+        generators(5, 3, 5, 7);
+        text("of a 3 5;drop c a 3;");
+        gaps(1, 1, 2, 3, 4, 7);
     }
 }
